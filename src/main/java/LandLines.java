@@ -583,17 +583,8 @@ public final class LandLines {
             return had;
         }
 
+        /** How many lines were told; if there is a fault, all stays but THE TAPE. */
         int tell(Rules laws) {
-            int lines = readText();
-            length = 0;
-            if (faultKind != 0) {
-                return FAULT_BASE - faultPlace;
-            }
-            laws.copyFrom(draft);
-            return lines;
-        }
-
-        private int readText() {
             draft.setAtFirst();
             toldBits = 0;
             at = 0;
@@ -605,6 +596,11 @@ public final class LandLines {
                 }
                 lines++;
             }
+            length = 0;
+            if (faultKind != 0) {
+                return FAULT_BASE - faultPlace;
+            }
+            laws.copyFrom(draft);
             return lines;
         }
 
@@ -1402,7 +1398,7 @@ public final class LandLines {
         private static final int MOST_JOBS = 7;
         private static final int SETS = 1 << MOST_JOBS;
         private static final int MOST_PARTINGS = 2187;
-        private static final int CANNOT = Integer.MAX_VALUE;
+        private static final int CANNOT = 2147483647;
 
         private final Breaks breaks;
         private final Fleet fleet;
