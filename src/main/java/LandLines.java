@@ -1351,8 +1351,9 @@ public final class LandLines {
             return size - 1;
         }
 
-        int leaveFor(int b) {
-            return net.wet[breaks.line[b]] == 1 ? WET_BIT : DRY_BIT;
+        boolean hasLeave(int s, int b) {
+            int bit = net.wet[breaks.line[b]] == 1 ? WET_BIT : DRY_BIT;
+            return (leave[s] & bit) != 0;
         }
 
         int reelFor(int b) {
@@ -1374,7 +1375,7 @@ public final class LandLines {
         }
 
         boolean mayMend(int s, int b) {
-            return (leave[s] & leaveFor(b)) != 0 && reel[s] >= reelFor(b);
+            return hasLeave(s, b) && reel[s] >= reelFor(b);
         }
 
         int beginsIn(int s) {
@@ -1507,7 +1508,7 @@ public final class LandLines {
                     continue;
                 }
                 reel += fleet.reelFor(job[k]);
-                if ((fleet.leave[s] & fleet.leaveFor(job[k])) == 0 || reel > fleet.reel[s]) {
+                if (!fleet.hasLeave(s, job[k]) || reel > fleet.reel[s]) {
                     return CANNOT;
                 }
                 int hours = wait + fleet.hoursTo(job[k], fleet.x[s], fleet.y[s]);
@@ -1614,7 +1615,7 @@ public final class LandLines {
             int least = CANNOT;
             for (int j = 0; j < jobs; j++) {
                 boolean rests = (plainRest >> j & 1) == 1;
-                boolean may = (fleet.leave[s] & fleet.leaveFor(job[j])) != 0 && fleet.reelFor(job[j]) <= plainReel[s];
+                boolean may = fleet.hasLeave(s, job[j]) && fleet.reelFor(job[j]) <= plainReel[s];
                 int hours = fleet.hoursTo(job[j], plainX[s], plainY[s]);
                 if (rests && may && hours < least) {
                     least = hours;
