@@ -1,8 +1,5 @@
-import java.lang.reflect.Method;
-import java.util.ArrayList;
 import java.util.Arrays;
 import java.util.HashMap;
-import java.util.List;
 import java.util.Map;
 import java.util.Random;
 
@@ -33,7 +30,7 @@ public final class OracleTest {
         wide = new int[] {4, 12, 30, 100}[random.nextInt(4)];
     }
 
-    public static void main(String[] args) throws ReflectiveOperationException {
+    public static void main(String[] args) {
         Due due = new Due();
         Map<String, Integer> well = new HashMap<>();
         for (int run = 0; run < RUNS; run++) {
@@ -45,7 +42,7 @@ public final class OracleTest {
         due.close();
     }
 
-    private void go() throws ReflectiveOperationException {
+    private void go() {
         int setup = random.nextInt(60);
         while (calls < setup) {
             ask(SETUP[random.nextInt(SETUP.length)]);
@@ -60,7 +57,7 @@ public final class OracleTest {
         }
     }
 
-    private void tellRules(String text) throws ReflectiveOperationException {
+    private void tellRules(String text) {
         call("end", 0);
         for (long v : Texts.bytes(text)) {
             call("feed", v);
@@ -70,36 +67,22 @@ public final class OracleTest {
         call("fault");
     }
 
-    private void ask(String name) throws ReflectiveOperationException {
+    private void ask(String name) {
         if (name.equals("feed")) {
             call(name, random.nextLong());
         } else {
-            call(name, Arrays.stream(arguments(name)).boxed().toArray());
+            call(name, Arrays.stream(arguments(name)).asLongStream().toArray());
         }
     }
 
-    private void call(String name, Object... given) throws ReflectiveOperationException {
+    private void call(String name, long... given) {
         calls++;
-        int want = (int) find(Model.class, name, given.length).invoke(m, given);
-        int got = (int) find(LandLines.class, name, given.length).invoke(x, given);
+        Call call = new Call(name, given);
+        int want = call.on(m);
         if (want >= 0) {
             well.merge(name, 1, Integer::sum);
         }
-        due.is("run " + run + ", call " + calls + ": " + name + Arrays.toString(given), got, want);
-    }
-
-    private static final Map<String, Method> FOUND = new HashMap<>();
-
-    private static Method find(Class<?> owner, String name, int arity) {
-        return FOUND.computeIfAbsent(owner.getName() + name, key -> {
-            List<Method> fitting = new ArrayList<>();
-            for (Method method : owner.getDeclaredMethods()) {
-                if (method.getName().equals(name) && method.getParameterCount() == arity) {
-                    fitting.add(method);
-                }
-            }
-            return fitting.get(0);
-        });
+        due.is("run " + run + ", call " + calls + ": " + call, call.on(x), want);
     }
 
     /** A number in its bounds, seldom beyond them. */
