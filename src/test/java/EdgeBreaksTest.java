@@ -38,7 +38,7 @@ public final class EdgeBreaksTest {
     }
 
     private static void cutBounds() {
-        edge.sentence(24, "there is no such LINE");
+        edge.sentence(24, "there is no such .. LINE");
         edge.bounds(BAD, World.SOME, 0, 0, 3, "cut", 0, 20);
         edge.refused(BAD, World.NOTHING, "cut", 0, 0);
         edge.sentence(24, "from an HOUR on (not behind THE HOUR)");

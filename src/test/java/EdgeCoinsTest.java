@@ -56,7 +56,7 @@ public final class EdgeCoinsTest {
     }
 
     private static void hoursOfRent() {
-        edge.sentence(34, "HOURS from and to");
+        edge.sentence(34, "HOURS from (0 to 998) and to (above from, 999 at most)");
         LandLines x = rented(20, "rent a 0 1 from 5 to 9 for 7;rent b 0 1 from 5 to 6 for 7;");
         both(x, 0, 999, 0, 4 * 7);
         both(x, 1, 999, 0, 7);
@@ -110,7 +110,7 @@ public final class EdgeCoinsTest {
     }
 
     private static void twoBreaks() {
-        edge.sentence(34, "for each HOUR of it .. in which a BREAK of that LINE was OPEN: once, if two were");
+        edge.sentence(34, "coins for each HOUR of it .. in which a BREAK of that LINE was OPEN");
         LandLines x = rented(10, "rent a 0 1 from 0 to 30 for 1;");
         x.cut(0, 4);
         x.cut(0, 2);

@@ -310,7 +310,7 @@ public final class EdgeLandsTest {
     }
 
     private static void changeEdges() {
-        edge.sentence(7, "there is no such LINE");
+        edge.sentence(7, "there is no such .. LINE");
         edge.bounds(BAD, World.SOME, 0, 0, 3, "change", 0, 5, 5);
         edge.bounds(BAD, World.FULL, 0, 0, 11, "change", 0, 5, 5);
         edge.sentence(7, "SPLICES (0 to 20)");

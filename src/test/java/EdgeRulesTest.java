@@ -78,7 +78,7 @@ public final class EdgeRulesTest {
     }
 
     private static void endBounds() {
-        edge.sentence(11, "THE TAPE keeps its first n bytes. BAD.");
+        edge.sentence(11, "THE TAPE keeps its first n bytes: .. BAD.");
         edge.bounds(BAD, World.SOME, 0, 0, 16, "end", 5);
         edge.bounds(BAD, World.FULL, 0, 0, 240, "end", 5);
         edge.bounds(BAD, World.NOTHING, 0, 0, 0, "end", 0);

@@ -66,7 +66,7 @@ public final class EdgeSheetsTest {
         edge.refused(BAD, World.SOME, "sheet", 0, 0, 41);
         edge.refused(BAD, World.SOME, "sheet", 3, 2, 41);
         edge.refused(BAD, World.FULL, "sheet", 2, 2, Integer.MAX_VALUE);
-        edge.sentence(38, "-10 - 4: 4 SIZE (below 0)");
+        edge.sentence(38, "4 SIZE (below 0)");
         edge.refused(SIZE, World.SOME, "sheet", 0, 0, -1);
         edge.refused(SIZE, World.SOME, "sheet", 3, 2, -1);
         edge.refused(SIZE, World.FULL, "sheet", 1, 1, Integer.MIN_VALUE);
@@ -251,7 +251,7 @@ public final class EdgeSheetsTest {
     }
 
     private static void readOfNoDemand() {
-        edge.sentence(40, "How much each DEMAND is: where there is none");
+        edge.sentence(40, "How much each DEMAND is");
         LandLines x = new LandLines();
         x.sheet(0, 0, 0);
         for (long f : new long[] {0, -1, 40, Integer.MIN_VALUE, Integer.MAX_VALUE}) {
@@ -263,7 +263,7 @@ public final class EdgeSheetsTest {
     }
 
     private static void countBounds() {
-        edge.sentence(41, "How many: 0 LANDS .. 11 CELLS of SHEET 0. BAD.");
+        edge.sentence(41, "How many: 0 LANDS, .. 11 CELLS of SHEET 0 .. BAD.");
         edge.bounds(BAD, World.SOME, 0, 0, 11, "count", 0);
         edge.bounds(BAD, World.NOTHING, 0, 0, 11, "count", 0);
         edge.bounds(BAD, World.FULL, 0, 0, 11, "count", 0);

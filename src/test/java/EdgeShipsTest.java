@@ -55,7 +55,7 @@ public final class EdgeShipsTest {
     }
 
     private static void shipBounds() {
-        edge.sentence(29, "SHIPS: in a LAND");
+        edge.sentence(29, "in a LAND (at its x, y)");
         edge.bounds(BAD, World.SOME, 0, 0, 3, "ship", 0, 5, 3);
         edge.refused(BAD, World.NOTHING, "ship", 0, 5, 3);
         edge.sentence(29, "REEL (0 to 99)");
@@ -80,7 +80,7 @@ public final class EdgeShipsTest {
     }
 
     private static void shipOfBounds() {
-        edge.sentence(30, "Of a SHIP: 0 x, 1 y, 2 REEL left, 3 LEAVE, 4 the HOUR from which it is free. BAD.");
+        edge.sentence(30, "Of a SHIP: 0 x, 1 y, 2 REEL left, 3 LEAVE, 4 the HOUR from which it is free .. BAD.");
         edge.bounds(BAD, World.SOME, 0, 0, 1, "shipOf", 0, 0);
         edge.bounds(BAD, World.FULL, 0, 0, 2, "shipOf", 0, 0);
         edge.bounds(BAD, World.SOME, 1, 0, 4, "shipOf", 0, 0);
@@ -104,7 +104,7 @@ public final class EdgeShipsTest {
     }
 
     private static void sendBounds() {
-        edge.sentence(31, "there is no such SHIP, BREAK");
+        edge.sentence(31, "there is no such .. BREAK, SHIP");
         edge.bounds(BAD, World.SOME, 0, 0, 1, "send", 0, 2);
         edge.bounds(BAD, World.SOME, 1, 0, 2, "send", 1, 2);
         edge.bounds(BAD, World.FULL, 0, 0, 2, "send", 0, 2);
@@ -294,7 +294,7 @@ public final class EdgeShipsTest {
     }
 
     private static void orderBounds() {
-        edge.sentence(32, "what 0 the COST, 1 BREAKS in it (bits), 10 and b: the SHIP of BREAK b. BAD");
+        edge.sentence(32, "what 0 the COST, 1 BREAKS in it (bits), 10 and b: the SHIP of BREAK b .. BAD");
         long[] bad = {-1, 2, 9, 13, Integer.MIN_VALUE, Integer.MIN_VALUE + 9, Integer.MIN_VALUE + 10, Integer.MAX_VALUE};
         for (long what : bad) {
             edge.refused(BAD, World.SOME, "order", what);
@@ -490,7 +490,7 @@ public final class EdgeShipsTest {
     }
 
     private static void plainBounds() {
-        edge.sentence(33, "its COST (what 0), how many BREAKS stay (1). BAD");
+        edge.sentence(33, "its COST (what 0), how many BREAKS stay (1 .. BAD");
         edge.bounds(BAD, World.SOME, 0, 0, 1, "plain", 0);
         edge.bounds(BAD, World.NOTHING, 0, 0, 1, "plain", 0);
         edge.sentence(33, "BAD; STATE: more than 7");

@@ -107,11 +107,11 @@ public final class EdgeTrafficTest {
     }
 
     private static void muchBounds() {
-        edge.sentence(17, "there is no such DEMAND");
+        edge.sentence(17, "there is no such .. DEMAND");
         edge.bounds(BAD, World.SOME, 0, 0, 2, "much", 0, 5);
         edge.bounds(BAD, World.FULL, 0, 0, 11, "much", 0, 5);
         edge.refused(BAD, World.NOTHING, "much", 0, 5);
-        edge.sentence(17, "It becomes so much (0 to 99)");
+        edge.sentence(17, "It becomes so much (0 to 99");
         edge.bounds(BAD, World.SOME, 1, 0, 99, "much", 0, 5);
         edge.sentence(17, "what it was");
         LandLines x = World.SOME.make();
@@ -151,7 +151,7 @@ public final class EdgeTrafficTest {
     }
 
     private static void ledBounds() {
-        edge.sentence(18, "LED: 0 how much goes, 1 how much is LOST, 2 DEMANDS that are LOST. BAD.");
+        edge.sentence(18, "LED: 0 how much goes, 1 how much is LOST, 2 DEMANDS that are LOST .. BAD.");
         edge.bounds(BAD, World.SOME, 0, 0, 2, "led", 0);
         edge.bounds(BAD, World.NOTHING, 0, 0, 2, "led", 0);
         edge.bounds(BAD, World.FULL, 0, 0, 2, "led", 0);
@@ -368,7 +368,7 @@ public final class EdgeTrafficTest {
         edge.sentence(22, "in turn t (0 to 60) of SWING");
         edge.bounds(BAD, World.SOME, 0, 0, 60, "swing", 5, 0, 0);
         edge.bounds(BAD, World.FULL, 0, 0, 60, "swing", 5, 0, 0);
-        edge.sentence(22, "there is no such DEMAND");
+        edge.sentence(22, "there is no such .. DEMAND");
         edge.bounds(BAD, World.SOME, 1, 0, 2, "swing", 5, 0, 0);
         edge.bounds(BAD, World.FULL, 1, 0, 11, "swing", 5, 0, 0);
         edge.refused(BAD, World.NOTHING, "swing", 0, 0, 0);
@@ -458,7 +458,7 @@ public final class EdgeTrafficTest {
     }
 
     private static void swingsOfNothing() {
-        edge.sentence(23, "SWING, where nothing goes");
+        edge.sentence(23, "SWING: 0 the turn from which on it comes back, 1 ROUND");
         swings(new LandLines(), 0, 1, 0, 0);
         swings(net(8), 0, 1, 0, 0);
         swings(net(2, 1), 0, 1, 0, 0);
