@@ -229,7 +229,7 @@ public final class EdgeBreaksTest {
     }
 
     private static void places() {
-        edge.sentence(26, "A PLACE of a LINE at s (0 to LENGTH): s steps from its first LAND on, first along x, then along y");
+        edge.sentence(26, "A PLACE of a LINE at s (0 to LENGTH): s steps from its first LAND on, first along x");
         placesOf(22, 32, 20, 30, 21, 30, 22, 30, 22, 31, 22, 32);
         placesOf(22, 28, 20, 30, 21, 30, 22, 30, 22, 29, 22, 28);
         placesOf(18, 32, 20, 30, 19, 30, 18, 30, 18, 31, 18, 32);

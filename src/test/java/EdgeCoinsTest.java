@@ -180,8 +180,8 @@ public final class EdgeCoinsTest {
 
     private static void housesAndCoins() {
         edge.sentence(34, "for each rent of it");
-        LandLines x = rented(10, "rent a 0 8 from 0 to 9 for 99;rent f 0 1 from 0 to 9 for 0;rent a 1 1 from 0 to 9 for 1;"
-                + "rent f 0 1 from 1 to 9 for 2;");
+        LandLines x = rented(10, "rent a 0 8 from 0 to 9 for 99;rent f 0 1 from 0 to 9 for 0;"
+                + "rent a 1 1 from 0 to 9 for 1;rent f 0 1 from 1 to 9 for 2;");
         x.cut(0, 5);
         both(x, 0, 999, 4 * 99, 5 * 99 + 9);
         both(x, 5, 999, 4 * 2, 4 * 2);

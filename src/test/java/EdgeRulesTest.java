@@ -343,7 +343,7 @@ public final class EdgeRulesTest {
     }
 
     private static void notTold() {
-        edge.sentence(12, "What is not told: send 100, need 20, loss 1, splice 2, age 1, room 5, mend 4, sail 2, no rents");
+        edge.sentence(12, "What is not told: send 100, need 20, loss 1, splice 2, age 1, room 5, mend 4, sail 2");
         int[] first = {100, 20, 1, 2, 1, 5, 4, 2, 0};
         LandLines none = edge.taken(0, "");
         for (int what = 0; what < 9; what++) {
