@@ -7,6 +7,8 @@ import java.util.Random;
 public final class OracleTest {
     private static final int RUNS = 2500;
     private static final int MOST_CALLS = 512;
+    private static final int WORLD_EVERY = 30;
+    private static final int MOST_FILLING = 200;
     private static final String[] SETUP = {"land", "land", "line", "line", "line", "demand", "demand", "plan", "ship"};
     private static final String[] ALL = {"land", "line", "lineOf", "light", "until", "change", "year", "hour", "feed",
         "end", "rules", "fault", "rule", "rent", "demand", "much", "led", "way", "parts", "worst", "swing", "swings",
@@ -43,7 +45,10 @@ public final class OracleTest {
     }
 
     private void go() {
-        int setup = random.nextInt(60);
+        if (run % WORLD_EVERY == 0) {
+            beginIn(World.values()[run / WORLD_EVERY % World.values().length]);
+        }
+        int setup = calls + random.nextInt(60);
         while (calls < setup) {
             ask(SETUP[random.nextInt(SETUP.length)]);
         }
@@ -55,6 +60,13 @@ public final class OracleTest {
                 ask(name);
             }
         }
+    }
+
+    /** Seldom, for the Model tries every order: a run that begins with all places taken, or many. */
+    private void beginIn(World world) {
+        world.fill(x);
+        world.fill(m);
+        calls = MOST_FILLING;
     }
 
     private void tellRules(String text) {
