@@ -19,6 +19,7 @@ public final class EdgeCoinsTest {
         safeOfFewLands();
         safeNone();
         safeTwoFall();
+        safeByTurns();
         safeLeast();
         safeWhole();
         safeAllPlans();
@@ -325,6 +326,19 @@ public final class EdgeCoinsTest {
         safe(z, 3, 7, 1);
         safe(z, 7, 7, 1);
         safe(z, 4, 0, 0);
+    }
+
+    /** Three WAYS are there only if the second one takes LINE 1 from the first, and the third one goes by it again. */
+    private static void safeByTurns() {
+        edge.sentence(37, "whichever two .. fall, all these LANDS are joined by the others");
+        LandLines x = lands(5);
+        int[] ends = {1, 12, 23, 13, 23, 2, 41, 4};
+        for (int e : ends) {
+            x.line(e / 10, e % 10, 0, 1, 0, 0);
+        }
+        safe(x, 1 | 8, 0, 0);
+        safe(x, 1 | 2 | 4 | 8, 0, 0);
+        safe(x, 31, NONE, NONE);
     }
 
     private static void safeLeast() {
