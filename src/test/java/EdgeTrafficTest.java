@@ -501,13 +501,16 @@ public final class EdgeTrafficTest {
         swings(x, 0, 2, 6, 256 | 512);
     }
 
-    /** The longest row of turns ahead of LOADS that came back that a search has found; none was SPENT. */
+    /** The longest row of turns until LOADS came back (in turn 38) that long searches have found; none was SPENT. */
     private static void swingsLongest() {
         edge.sentence(23, "SPENT: no LOADS came back up to turn 60");
-        LandLines x = asking(net(8, 71, 63, 24, 50, 30, 40, 65, 23, 21, 37, 46, 51), 26, 10, 72, 73, 7, 40, 61, 51,
+        LandLines x = asking(net(8, 23, 6, 53, 34, 41, 12, 47, 17, 50, 20, 36, 70), 51, 83, 27, 19, 41, 40, 62, 81,
+                75, 55, 37, 75, 65, 51, 76, 8, 21, 4, 46, 39, 61, 6, 3, 2);
+        swings(x, 36, 2, 289, 4095);
+        LandLines y = asking(net(8, 71, 63, 24, 50, 30, 40, 65, 23, 21, 37, 46, 51), 26, 10, 72, 73, 7, 40, 61, 51,
                 67, 15, 24, 18, 45, 23, 6, 99, 71, 73, 12, 35, 14, 61, 31, 1);
-        swings(x, 33, 2, 317, 4095);
-        edge.is(NONE, x, "swing", 60, 11, 7);
-        edge.is(BAD, x, "swing", 61, 11, 7);
+        swings(y, 33, 2, 317, 4095);
+        edge.is(NONE, y, "swing", 60, 11, 7);
+        edge.is(BAD, y, "swing", 61, 11, 7);
     }
 }
